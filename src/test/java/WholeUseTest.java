@@ -69,9 +69,9 @@ public final class WholeUseTest {
         void call(int number) {
             if (kind == Kind.REFUSED && number <= 14) {
                 make(number, Member.ADD, number % 2, 1 + random.nextInt(7));
-            } else if (number > CALLS - 2) {
-                // The last calls look at what all the others have left.
-                make(number, Member.CODE, CALLS - number, 0);
+            } else if (number == CALLS - 2 || number == CALLS - 1) {
+                // What all the calls before have left; the last call is any.
+                make(number, Member.CODE, number % 2, 0);
             } else {
                 Member member = dealt();
                 int w = word(member);
